@@ -161,6 +161,8 @@ public final class DrewTest {
         Due.due("look(1): no pressure does", x.look(1), 10);
         x.want(1, 2);
         Due.due("look(1)", x.look(1), 2);
+        x.want(1, 20);
+        Due.due("look(1): it goes by what is due, too", x.look(1), 2);
         x.note(0, 5, 1, 20, 5, 10);
         Due.due("look(0): town or chain", x.look(0), 1);
         x.note(0, 5, 2, 20, 5, 10);
@@ -187,6 +189,9 @@ public final class DrewTest {
         Due.due("swaps(-2)", x.swaps(-2), -10);
         Due.status(x, 1, 0, 0);
         Due.due("digest()", x.digest(), before);
+        WishMeter first = Due.main(12, 4, 5, 1, 0, 10, 2, 1, 5, 2);
+        Due.due("the first one, too", first.swaps(-1), 1);
+        Due.due("swaps(0)", first.swaps(0), 2);
         WishMeter like = Due.main(20, 0, 5, 1, 0, 5, 2);
         Due.due("as much is not more", like.swaps(-1), 0);
         WishMeter one = Due.main(20, 4, 5, 1, 0, 5, 2);

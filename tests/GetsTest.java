@@ -10,9 +10,11 @@ public final class GetsTest {
         turns();
         turnsFirstWay();
         fair();
+        turnsBehindFair();
         fairNone();
         least();
         shut();
+        fewerWells();
         Due.end();
     }
 
@@ -172,6 +174,24 @@ public final class GetsTest {
         Due.due("fair(0)", none.fair(0), -10);
     }
 
+    /** Each looks anew, whatever was looked for last. */
+    private static void turnsBehindFair() {
+        WishMeter x = Due.main(40, TOWN, 20, 0, CHAIN, 20, 0, WIRE, 20, 0);
+        Due.due("fair(NONE)", x.fair(-1), 80);
+        x.press(10);
+        Due.due("turns(NONE)", x.turns(-1), 30);
+        Due.due("turns(0)", x.turns(0), 0);
+        Due.due("turns(1)", x.turns(1), 1);
+        Due.due("turns(2)", x.turns(2), 2);
+        x.press(0);
+        Due.due("turns(NONE)", x.turns(-1), 0);
+        Due.due("turns(2)", x.turns(2), 0);
+        Due.due("fair(NONE)", x.fair(-1), 0);
+        x.press(10);
+        Due.due("fair(NONE)", x.fair(-1), 40);
+        Due.due("fair(2)", x.fair(2), 2);
+    }
+
     private static void fairNone() {
         WishMeter x = Due.main(10, CHAIN, 10, 0, CHAIN, 10, 0, CHAIN, 10, 0, CHAIN, 10, 0, CHAIN, 10, 0);
         Due.due("fair(NONE)", x.fair(-1), -1);
@@ -216,6 +236,30 @@ public final class GetsTest {
         Due.due("one behind", Due.main(10, PLAIN, 9, 1, PLAIN, 9, 1).shut(0), -1);
         Due.due("enough for both", Due.main(10, PLAIN, 5, 1, PLAIN, 5, 1).shut(1), -1);
         Due.due("other hours", Due.main(5, PLAIN, 5, 1, PLAIN, 5, 2).shut(1), -1);
-        Due.due("by the day", Due.main(9, PLAIN, 9, 1, PLAIN, 5, 14, PLAIN, 9, 15).shut(2), 1);
+        Due.due("by the day, all hours", Due.main(9, PLAIN, 9, 1, PLAIN, 5, 14, PLAIN, 9, 15).shut(2), 1);
+    }
+
+    /** Wells that a board took away are asked no more. */
+    private static void fewerWells() {
+        WishMeter x = Due.main(60, TOWN, 9, 255, TOWN, 9, 255, TOWN, 9, 255, TOWN, 9, 255, RUNNING, 9, 255);
+        x.day(1);
+        x.fair(-1);
+        x.daily(-1, 1);
+        x.board(20);
+        x.well(PLAIN, 5, 255);
+        x.well(PLAIN, 5, 1);
+        Due.due("daily(NONE, 0)", x.daily(-1, 0), 45);
+        Due.due("daily(NONE, 1)", x.daily(-1, 1), 45);
+        Due.due("day(1)", x.day(1), 45);
+        Due.due("count(3)", x.count(3), 45);
+        Due.due("count(4)", x.count(4), 45);
+        Due.due("turns(NONE)", x.turns(-1), 10);
+        Due.due("fair(NONE)", x.fair(-1), 10);
+        Due.due("least()", x.least(), 10);
+        Due.due("hour(1, 0, 2)", x.hour(1, 0, 2), 10);
+        Due.due("drew(2)", x.drew(2), 3);
+        Due.due("shut(1)", x.shut(1), -1);
+        Due.due("swaps(NONE)", x.swaps(-1), 0);
+        Due.due("years(1, 60)", x.years(1, 60), Due.main(3, PLAIN, 5, 255, PLAIN, 5, 1).years(1, 60));
     }
 }

@@ -11,7 +11,9 @@ public final class MainTest {
         clear();
         readMains();
         readFaults();
+        readsNoOldBytes();
         readTakesThePlaceOfAllBut();
+        readAgain();
         Due.end();
     }
 
@@ -203,6 +205,29 @@ public final class MainTest {
         faults(FIVE + "well", 46);
         faults(FIVE + " well0 1;", 47);
         faults(FIVE + "main", 46);
+        faults("main 5;dayz;", 7);
+        faults("main 5;aday;", 7);
+        faults("main 5;day{", 10);
+        faults("main 5;day`;", 10);
+        faults("main 5:", 6);
+        faults("main 5/;", 6);
+        faults("Main 5;", 0);
+    }
+
+    /** What was typed ahead of a clear is no more of the text. */
+    private static void readsNoOldBytes() {
+        oldBytes("main 55;", "main 5", 6);
+        oldBytes("main 5  ;", "main 5", 6);
+        oldBytes("main5;dayx;", "main5;day", 9);
+        oldBytes("main5;day;", "main5;day", 9);
+        oldBytes("main5;day;", "", 0);
+    }
+
+    private static void oldBytes(String old, String text, int fault) {
+        WishMeter x = new WishMeter();
+        Due.type(x, old);
+        Due.type(x, text);
+        Due.due("read() of " + text + " behind " + old, x.read(), -10 - fault);
     }
 
     private static void faults(String text, int fault) {
@@ -237,5 +262,19 @@ public final class MainTest {
         Due.due("count(5)", x.count(5), 1);
         Due.due("count(6)", x.count(6), 1);
         Due.due("undo()", x.undo(), 0);
+    }
+
+    private static void readAgain() {
+        WishMeter x = new WishMeter();
+        Due.type(x, FIVE + "day;");
+        Due.due("read()", x.read(), 7);
+        long once = x.digest();
+        Due.due("read() again", x.read(), 7);
+        Due.due("digest()", x.digest(), once);
+        x.type('x');
+        Due.due("read() of a fault", x.read(), -10 - 50);
+        Due.type(x, "main 4;well 1 2 3;day;");
+        Due.due("read() of another", x.read(), 3);
+        Due.due("digest()", x.digest(), Due.digestOf(1, 4, 1, 2, 4, 0, 0, 0, 22, 1, 2, 8, 2, 4, 0, 1));
     }
 }

@@ -733,7 +733,7 @@ public final class WishMeter {
             found = false;
             bestWorth = 0;
             for (int h = 0; h < HOURS; h++) rest[h] = pipe.pressure;
-            choose(pipe, 0, 0);
+            choose(this, pipe, 0, 0);
         }
 
         private static int bestAlone(Pipe pipe, int i) {
@@ -744,18 +744,19 @@ public final class WishMeter {
             return most;
         }
 
-        private void choose(Pipe pipe, int i, int worth) {
+        /** Static, since only such a method may call itself; no deeper than there are wells. */
+        private static void choose(Search s, Pipe pipe, int i, int worth) {
             if (i >= pipe.wells || i >= MOST_WELLS) {
-                keepIfBetter(worth);
+                s.keepIfBetter(worth);
                 return;
             }
             for (int h = 0; h < HOURS; h++) {
-                int gets = Kinds.gets(pipe.kind[i], pipe.wanted[i], h, rest[h]);
-                if (gets < mustGet[i] || isLikeAnEarlierOne(h)) continue;
-                way[i] = h;
-                rest[h] -= gets;
-                choose(pipe, i + 1, byDue ? worth - Kinds.due(pipe.kind[i], gets) : worth + gets);
-                rest[h] += gets;
+                int gets = Kinds.gets(pipe.kind[i], pipe.wanted[i], h, s.rest[h]);
+                if (gets < s.mustGet[i] || s.isLikeAnEarlierOne(h)) continue;
+                s.way[i] = h;
+                s.rest[h] -= gets;
+                choose(s, pipe, i + 1, s.byDue ? worth - Kinds.due(pipe.kind[i], gets) : worth + gets);
+                s.rest[h] += gets;
             }
         }
 
