@@ -11,7 +11,7 @@ public final class WishMeter {
     private static final int MOST_BYTES = 150, IMAGES = 2;
     private static final int TOWN = 1, UPPER = 2, WIRE = 3, CHAIN = 4, RUNNING = 5, KINDS = 6;
     private static final int LOOK_HOURS = 2, LOOK_PRESSURE = 30;
-    private static final int TOO_MANY = -5, BAD_HERE = -10, FAULT_BASE = -10, NO_STATUS = -1;
+    private static final int NOT_SO_MANY = -5, BAD_HERE = -10, FAULT_BASE = -10, NO_STATUS = -1;
 
     private final Pipe now = new Pipe();
     private final Pipe[] images = new Pipe[IMAGES];
@@ -236,7 +236,7 @@ public final class WishMeter {
                 pairs++;
             }
         }
-        return k == NONE ? pairs : TOO_MANY;
+        return k == NONE ? pairs : NOT_SO_MANY;
     }
 
     public int inspector(int i, int h) {
