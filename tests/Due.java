@@ -1,3 +1,7 @@
+import java.io.IOException;
+import java.io.UncheckedIOException;
+import java.nio.file.Files;
+import java.nio.file.Path;
 import java.util.ArrayList;
 import java.util.List;
 
@@ -6,12 +10,30 @@ final class Due {
     private static final List<String> wrongs = new ArrayList<>();
     private static int asked = 0;
     private static String part = "";
+    private static String document = "";
 
     private Due() {
     }
 
     static void promise(int number) {
         part = "promise " + number + ": ";
+    }
+
+    /** The sentence of the document that the next answers hold it to; it must stand there by its very words. */
+    static void says(String sentence) {
+        part = "\"" + sentence + "\": ";
+        due("places in DOC.md", document().contains(sentence) ? 1 : 0, 1);
+    }
+
+    private static String document() {
+        if (document.isEmpty()) {
+            try {
+                document = Files.readString(Path.of("../shared/DOC.md")).replaceAll("\\s+", " ");
+            } catch (IOException e) {
+                throw new UncheckedIOException(e);
+            }
+        }
+        return document;
     }
 
     static void due(String call, long got, long want) {
@@ -29,6 +51,14 @@ final class Due {
         WishMeter x = new WishMeter();
         x.board(pressure);
         for (int k = 0; k + 2 < wells.length; k += 3) x.well(wells[k], wells[k + 1], wells[k + 2]);
+        return x;
+    }
+
+    /** A main by a text. */
+    static WishMeter read(String text) {
+        WishMeter x = new WishMeter();
+        type(x, text);
+        x.read();
         return x;
     }
 

@@ -1,105 +1,51 @@
-import java.lang.reflect.InvocationTargetException;
-import java.lang.reflect.Method;
 import java.util.Arrays;
 import java.util.Random;
 
 /** Long runs of calls by a fixed seed: the class and the oracle must answer alike. */
 public final class RandomTest {
-    private static final int RUNS = 400, CALLS = 512;
+    private static final int RUNS = 400;
     private static final String[] CHANGES = {"day", "turn", "want", "press", "undo", "well", "well", "left", "note",
         "note", "forget", "image", "from", "noons", "board", "turn", "want", "press", "day"};
     private static final String[] PIECES = {"main", "well", "turn", "day", ";", " ", "0", "7", "12", "99", "100",
         "x", "A", "#"};
 
     private final Random random;
-    private final WishMeter x = new WishMeter();
+    private final Counted m = new Counted();
     private final Oracle oracle = new Oracle();
-    private int calls = 0;
 
     private RandomTest(long seed) {
         random = new Random(seed);
     }
 
-    public static void main(String[] args) throws ReflectiveOperationException {
+    public static void main(String[] args) {
         for (int run = 0; run < RUNS; run++) new RandomTest(run).run();
         Due.end();
     }
 
-    private void run() throws ReflectiveOperationException {
+    private void run() {
         if (random.nextInt(3) > 0) readAText();
-        int most = random.nextInt(4) == 0 ? CALLS : 120;
-        while (calls < most) {
-            if (random.nextInt(60) == 0 && calls < CALLS - 170) readAText();
+        while (m.rest() > 20) {
+            if (random.nextInt(60) == 0 && m.rest() > 180) readAText();
             else if (random.nextInt(8) == 0) aLikelyNote();
             else if (random.nextInt(8) == 0) aLikelyLeft();
             else oneCall();
         }
     }
 
-    private void oneCall() throws ReflectiveOperationException {
-        Method[] methods = sorted();
-        Method m = methods[random.nextInt(methods.length)];
-        if (random.nextInt(2) == 0) m = named(methods, CHANGES[random.nextInt(CHANGES.length)]);
-        if (m.getName().equals("board") && random.nextInt(8) > 0) return;
-        call(m.getName(), argumentsOf(m));
-    }
-
-    private static Method[] sorted() {
-        Method[] methods = Arrays.stream(Oracle.class.getDeclaredMethods())
-            .filter(m -> java.lang.reflect.Modifier.isPublic(m.getModifiers())).toArray(Method[]::new);
-        Arrays.sort(methods, (a, b) -> a.getName().compareTo(b.getName()));
-        return methods;
-    }
-
-    private static Method named(Method[] methods, String name) {
-        for (Method m : methods) if (m.getName().equals(name)) return m;
-        throw new IllegalArgumentException(name);
-    }
-
-    private int[] argumentsOf(Method m) {
-        String ranges = switch (m.getName()) {
-            case "board", "press" -> "p";
-            case "well" -> "kqb";
-            case "turn" -> "ib";
-            case "want" -> "iq";
-            case "day" -> "d";
-            case "type" -> "t";
-            case "of" -> "i4";
-            case "hour" -> "ih2";
-            case "daily" -> "i1";
-            case "left" -> "hp";
-            case "note" -> "iqhpgz";
-            case "inspector" -> "ih";
-            case "noons" -> "ihc";
-            case "years" -> "sn";
-            case "drew", "status" -> "2";
-            case "count" -> "8";
-            case "part", "image", "from", "forget" -> "1";
-            case "swaps" -> "4";
-            default -> "i".repeat(m.getParameterCount());
-        };
+    private void oneCall() {
+        String name = Calls.NAMES.get(random.nextInt(Calls.NAMES.size()));
+        if (random.nextInt(2) == 0) name = CHANGES[random.nextInt(CHANGES.length)];
+        if (name.equals("board") && random.nextInt(8) > 0) return;
+        String ranges = Calls.ranges(name);
         int[] values = new int[ranges.length()];
         for (int k = 0; k < values.length; k++) values[k] = valueOf(ranges.charAt(k));
-        return values;
+        call(name, values);
     }
 
+    /** Of wells all five, whether they are there or not. */
     private int valueOf(char range) {
-        int low = range == 'q' || range == 'd' ? 1 : range == 'i' || range == '4' ? -1 : 0;
-        int high = switch (range) {
-            case 'p', 'n' -> 60;
-            case 'k' -> 5;
-            case 'q' -> 20;
-            case 'b' -> 255;
-            case 'd' -> 30;
-            case 't' -> 127;
-            case 'h' -> 7;
-            case 'g' -> 40;
-            case 'z' -> 80;
-            case 'c' -> 10;
-            case 's' -> 999999;
-            case 'i' -> 4;
-            default -> range - '0';
-        };
+        int low = Calls.low(range);
+        int high = range == 'K' ? 4 : Calls.high(range, 5);
         int pick = random.nextInt(40);
         if (pick == 0) return low - 1;
         if (pick == 1) return high + 1;
@@ -109,7 +55,7 @@ public final class RandomTest {
     }
 
     /** One that a kind explains, so that some kinds stay. */
-    private void aLikelyNote() throws ReflectiveOperationException {
+    private void aLikelyNote() {
         int i = random.nextInt(5);
         int q = 1 + random.nextInt(20);
         int h = random.nextInt(8);
@@ -127,14 +73,14 @@ public final class RandomTest {
         return other.daily(0, 1);
     }
 
-    private void aLikelyLeft() throws ReflectiveOperationException {
+    private void aLikelyLeft() {
         int h = random.nextInt(8);
         if (oracle.count(0) == 0) return;
         call("left", h, oracle.hour(0, h, 2));
         for (int what = 0; what < 3; what++) call("drew", what);
     }
 
-    private void readAText() throws ReflectiveOperationException {
+    private void readAText() {
         String text = aText();
         call("clear");
         for (int k = 0; k < text.length() && k < 151; k++) call("type", text.charAt(k));
@@ -178,25 +124,16 @@ public final class RandomTest {
         else text.setCharAt(at, (char) random.nextInt(128));
     }
 
-    private void call(String name, int... values) throws ReflectiveOperationException {
-        calls++;
-        long got = ask(x, name, values);
-        Due.due(name + Arrays.toString(values), got, ask(oracle, name, values));
-        Due.due("digest behind " + name, x.digest(), oracle.digest());
-        for (int k = 0; k < 3; k++) Due.due("status behind " + name, x.status(k), oracle.status(k));
+    /** Often with the digest behind it, sometimes with STATUS. */
+    private void call(String name, int... values) {
+        answersAlike(name, values);
+        if (random.nextInt(2) == 0 && !name.equals("type")) answersAlike("digest");
+        if (random.nextInt(9) == 0 && !name.equals("type")) {
+            for (int k = 0; k < 3; k++) answersAlike("status", k);
+        }
     }
 
-    private static long ask(Object who, String name, int[] values) throws ReflectiveOperationException {
-        Class<?>[] types = new Class<?>[values.length];
-        Object[] boxed = new Object[values.length];
-        for (int k = 0; k < values.length; k++) {
-            types[k] = int.class;
-            boxed[k] = values[k];
-        }
-        try {
-            return ((Number) who.getClass().getMethod(name, types).invoke(who, boxed)).longValue();
-        } catch (InvocationTargetException e) {
-            throw new IllegalStateException(name + Arrays.toString(values), e.getCause());
-        }
+    private void answersAlike(String name, int... values) {
+        Due.due(name + Arrays.toString(values), m.ask(name, values), Calls.ask(oracle, name, values));
     }
 }
