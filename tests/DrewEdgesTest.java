@@ -17,6 +17,7 @@ public final class DrewEdgesTest {
         isOwnNotes();
         look();
         lookAlike();
+        lookOfEachSet();
         lookNone();
         swaps();
         swapsMore();
@@ -285,6 +286,24 @@ public final class DrewEdgesTest {
         x.forget(1);
         x.note(0, 1, 1, 9, 0, 0);
         Due.due("upper, running of 1", x.look(0), 10);
+    }
+
+    /** Each set of KINDS that notes can leave, by one that leaves it: q, h, p, g, d; where to look of 1, of more. */
+    private static void lookOfEachSet() {
+        int[][] sets = {{20, 1, 9, 9, 9, 1, 0, 0}, {20, 0, 60, 20, 40, 2, 0, 0}, {20, 1, 9, 4, 4, 4, 0, 0},
+            {20, 1, 60, 20, 20, 5, 1, 1}, {20, 1, 60, 20, 0, 8, 0, 0}, {20, 0, 60, 0, 0, 16, 0, 0},
+            {20, 1, 60, 20, 40, 18, 1, 1}, {20, 1, 60, 40, 41, 32, 0, 0}, {1, 1, 9, 0, 0, 36, 10, 2},
+            {1, 0, 9, 0, 0, 52, 10, 2}, {20, 7, 0, 0, 0, 63, 10, 2}, {20, 7, 0, 0, 1, 0, -1, -1}};
+        for (int[] s : sets) {
+            WishMeter x = Due.main(1, WIRE, 1, 0);
+            x.note(0, s[0], s[1], s[2], s[3], s[4]);
+            Due.due("is(0)", x.is(0), s[5]);
+            Due.due("look(0) of 1 by kinds " + s[5], x.look(0), s[6]);
+            for (int q = 2; q <= 20; q++) {
+                x.want(0, q);
+                Due.due("look(0) of " + q + " by kinds " + s[5], x.look(0), s[7]);
+            }
+        }
     }
 
     private static void lookNone() {

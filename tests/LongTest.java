@@ -4,7 +4,7 @@ import java.util.Collections;
 import java.util.List;
 import java.util.Random;
 
-/** Runs up to the 512th call of an object, with a text of 150 bytes among them, answered as the oracle answers. */
+/** Runs up to the 512th call of an object, a text of 150 bytes among them: answers as the oracle has them. */
 public final class LongTest {
     private static final String[] CHANGES = {"day", "turn", "want", "press", "undo", "well", "left", "note", "forget",
         "image", "from", "noons", "turn", "want", "press", "day", "digest", "digest", "hour", "daily", "count"};
