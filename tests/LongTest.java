@@ -23,6 +23,8 @@ public final class LongTest {
         theLastCalls();
         manyDays();
         allOneCall();
+        Due.says("what later calls answer is free.");
+        behindTheLast();
         Due.end();
     }
 
@@ -126,5 +128,23 @@ public final class LongTest {
         Due.due("the 512th", m.ask("from", 1), 1);
         Counted images = new Counted();
         for (int k = 0; k < 512; k++) Due.due("image", images.ask("image", k & 1), 1);
+    }
+
+    /** What an object answers behind its 512th call is free; it must answer, all the same. */
+    private static void behindTheLast() {
+        WishMeter x = new WishMeter();
+        for (int k = 0; k < 5; k++) x.well(k, 20, 255);
+        Random random = new Random(512);
+        int answered = 0;
+        for (int k = 0; k < 20000; k++) {
+            String name = Calls.NAMES.get(random.nextInt(Calls.NAMES.size()));
+            int[] values = new int[Calls.ranges(name).length()];
+            for (int at = 0; at < values.length; at++) {
+                values[at] = random.nextInt(9) == 0 ? random.nextInt() : random.nextInt(9) - 1;
+            }
+            Calls.ask(x, name, values);
+            answered++;
+        }
+        Due.due("calls that answered", answered, 20000);
     }
 }
